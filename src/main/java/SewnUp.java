@@ -15,6 +15,14 @@ public final class SewnUp {
 
     private static final int HEATING = 0, CALMING = 1, FEELING = 2, PARTS = 3;
 
+    /** Tokens: names, keys, and what else there is; a sign is its own byte. */
+    private static final int THING = 0, TEMPER = 1, NUMBER = 2, DAY = 3, COAT = 4, OWN = 5, NAMES = 6;
+    private static final int HEATS = 6, CALMS = 7, FEELS = 8, OR = 9, AND = 10, NOT = 11, WORDS = 12;
+    private static final int DIGITS = 12, END = 13, WRONG = 14;
+
+    /** Codes: a number is itself, a name -1 less it, what joins is -token, and this is a sign ahead of one. */
+    private static final int NEGATE = -100;
+
     private final House house = new House();
     private final House kept = new House();
     private boolean isKept = false;
@@ -35,9 +43,8 @@ public final class SewnUp {
         for (int i = 0; i < MOST_SHEETS; i++) {
             sheets[i] = new Sheet();
         }
-        reader.write("heats 7 ; calms thing ; feels thing * 3 ;");
+        reader.tape.write("heats 7 ; calms thing ; feels thing * 3 ;");
         reader.read(texts[0]);
-        reader.size = 0;
         textCount = 1;
     }
 
@@ -165,12 +172,13 @@ public final class SewnUp {
         if (letter < 0 || letter > 255) {
             return BAD;
         }
-        if (reader.size >= MOST_BYTES) {
+        Tape tape = reader.tape;
+        if (tape.size >= MOST_BYTES) {
             return FULL;
         }
-        reader.tape[reader.size] = letter;
-        reader.size++;
-        return reader.size;
+        tape.bytes[tape.size] = letter;
+        tape.size++;
+        return tape.size;
     }
 
     public int text() {
@@ -178,7 +186,6 @@ public final class SewnUp {
             return FULL;
         }
         int fault = reader.read(texts[textCount]);
-        reader.size = 0;
         if (fault != NONE) {
             return -100 - fault;
         }
@@ -409,11 +416,8 @@ public final class SewnUp {
         if (felt.size != house.size) {
             return BAD;
         }
-        switch (what / 10) {
-            case 1: return kindsBy(felt, what % 10);
-            case 2: return numbersBy(felt, what % 10);
-            case 3: return thingsBy(felt, what % 10);
-            default: break;
+        if (isOfOne) {
+            return wouldBeSo(felt, what / 10, what % 10);
         }
         switch (what) {
             case 0: return otherwise(felt, rule());
@@ -447,47 +451,23 @@ public final class SewnUp {
         return bits;
     }
 
-    private int kindsBy(Sheet felt, int one) {
-        if (!areOthersSo(felt, one)) {
+    /** KINDS (1), NUMBERS (2), THINGS (3) of one; what is in his own coat is felt of who wears it. */
+    private int wouldBeSo(Sheet felt, int what, int one) {
+        int dancer = what == 3 ? wearerOf(one) : one;
+        if (!areOthersSo(felt, dancer)) {
             return 0;
         }
         int bits = 0;
-        seeAsIs(one);
-        for (int kind = 0; kind < KINDS; kind++) {
-            man.kind = kind;
-            if (man.feels(rule()) == felt.items[one]) {
-                bits |= 1 << kind;
+        int last = what == 1 ? KINDS - 1 : what == 2 ? LAST_NUMBER : LAST_THING;
+        seeAsIs(dancer);
+        for (int v = 0; v <= last; v++) {
+            switch (what) {
+                case 1: man.kind = v; break;
+                case 2: man.number = v; break;
+                default: man.has = v; break;
             }
-        }
-        return bits;
-    }
-
-    private int numbersBy(Sheet felt, int one) {
-        if (!areOthersSo(felt, one)) {
-            return 0;
-        }
-        int bits = 0;
-        seeAsIs(one);
-        for (int number = 0; number <= LAST_NUMBER; number++) {
-            man.number = number;
-            if (man.feels(rule()) == felt.items[one]) {
-                bits |= 1 << number;
-            }
-        }
-        return bits;
-    }
-
-    /** What is in one's own coat is felt of who wears it. */
-    private int thingsBy(Sheet felt, int one) {
-        int wearer = wearerOf(one);
-        if (!areOthersSo(felt, wearer)) {
-            return 0;
-        }
-        int bits = 0;
-        for (int thing = 0; thing <= LAST_THING; thing++) {
-            see(wearer, one, thing);
-            if (man.feels(rule()) == felt.items[wearer]) {
-                bits |= 1 << thing;
+            if (man.feels(rule()) == felt.items[dancer]) {
+                bits |= 1 << v;
             }
         }
         return bits;
@@ -613,7 +593,7 @@ public final class SewnUp {
             case 1: return house.warm();
             case 2: return house.boiling();
             case 3: return textCount;
-            case 4: return reader.size;
+            case 4: return reader.tape.size;
             case 5: return house.rule;
             default: return BAD;
         }
@@ -1065,13 +1045,6 @@ public final class SewnUp {
         }
     }
 
-    private static final int THING = 0, TEMPER = 1, NUMBER = 2, DAY = 3, COAT = 4, OWN = 5, NAMES = 6;
-    private static final int HEATS = 6, OR = 9, AND = 10, NOT = 11, WORDS = 12;
-    private static final int DIGITS = 12, END = 13, WRONG = 14;
-
-    /** What a code is: a number itself, from 0 on; a name, -1 less it; else -token of what joins. */
-    private static final int NEGATE = -100;
-
     /** Three rows of codes, what is joined ahead of what joins it, behind one another. */
     private static final class Text {
         final int[] codes = new int[MOST_BYTES];
@@ -1110,40 +1083,156 @@ public final class SewnUp {
         }
     }
 
-    /** The tape, and what reads it: whatever can't go on does so at the token that is at fault. */
-    private static final class Reader {
-        private static final int MOST_OPEN = 5, MOST_DIGITS = 4;
+    /** The tape, cut into tokens; what can't be one is WRONG and ends them, as the end does. */
+    private static final class Tape {
+        private static final int MOST_DIGITS = 4;
 
-        final int[] tape = new int[MOST_BYTES];
+        final int[] bytes = new int[MOST_BYTES];
         int size = 0;
-        private Text into = null;
-        private int length = 0;
+        final int[] tokens = new int[MOST_BYTES + 1];
+        final int[] places = new int[MOST_BYTES + 1];
+        final int[] values = new int[MOST_BYTES + 1];
         private int next = 0;
-        private int start = 0;
-        private int token = END;
-        private int value = 0;
 
         void write(String letters) {
             size = Math.min(letters.length(), MOST_BYTES);
             for (int i = 0; i < size; i++) {
-                tape[i] = letters.charAt(i);
+                bytes[i] = letters.charAt(i);
             }
         }
 
-        /** The place of the fault, or NONE. */
+        void cut() {
+            next = 0;
+            boolean goesOn = true;
+            for (int t = 0; t <= MOST_BYTES && goesOn; t++) {
+                passBlanks();
+                places[t] = next;
+                values[t] = 0;
+                tokens[t] = cutOne(t);
+                goesOn = tokens[t] != END && tokens[t] != WRONG;
+            }
+        }
+
+        private void passBlanks() {
+            while (next < size && (bytes[next] == ' ' || bytes[next] == 10)) {
+                next++;
+            }
+        }
+
+        private int cutOne(int t) {
+            if (next >= size) {
+                return END;
+            }
+            if (isLetter(next)) {
+                return cutWord();
+            }
+            if (isDigit(next)) {
+                return cutNumber(t);
+            }
+            next++;
+            return signAt(next - 1);
+        }
+
+        private int cutWord() {
+            int start = next;
+            while (next < size && isLetter(next)) {
+                next++;
+            }
+            for (int word = 0; word < WORDS; word++) {
+                if (isSpelled(start, spelling(word))) {
+                    return word;
+                }
+            }
+            return WRONG;
+        }
+
+        private boolean isSpelled(int start, String word) {
+            if (word.length() != next - start) {
+                return false;
+            }
+            for (int i = 0; i < word.length(); i++) {
+                if (word.charAt(i) != bytes[start + i]) {
+                    return false;
+                }
+            }
+            return true;
+        }
+
+        private int cutNumber(int t) {
+            int start = next;
+            while (next < size && isDigit(next)) {
+                values[t] = 10 * values[t] + bytes[next] - '0';
+                next++;
+            }
+            return next - start <= MOST_DIGITS ? DIGITS : WRONG;
+        }
+
+        private int signAt(int place) {
+            switch (bytes[place]) {
+                case '(': case ')': case ';': case '+': case '-': case '*': case '<': case '=':
+                    return bytes[place];
+                default:
+                    return WRONG;
+            }
+        }
+
+        private boolean isLetter(int place) {
+            return bytes[place] >= 'a' && bytes[place] <= 'z';
+        }
+
+        private boolean isDigit(int place) {
+            return bytes[place] >= '0' && bytes[place] <= '9';
+        }
+
+        private static String spelling(int word) {
+            switch (word) {
+                case THING: return "thing";
+                case TEMPER: return "temper";
+                case NUMBER: return "number";
+                case DAY: return "day";
+                case COAT: return "coat";
+                case OWN: return "own";
+                case HEATS: return "heats";
+                case CALMS: return "calms";
+                case FEELS: return "feels";
+                case OR: return "or";
+                case AND: return "and";
+                default: return "not";
+            }
+        }
+    }
+
+    /** Reads the tape's tokens; what can't go on leaves the token that is at fault as the one at hand. */
+    private static final class Reader {
+        private static final int MOST_OPEN = 5;
+
+        final Tape tape = new Tape();
+        private Text into = null;
+        private int length = 0;
+        private int at = 0;
+        private int token = END;
+
+        /** The place of the fault, or NONE; the tape is empty then. */
         int read(Text text) {
             into = text;
             length = 0;
-            next = 0;
-            scan();
+            at = 0;
+            tape.cut();
+            token = tape.tokens[0];
+            boolean isSo = readsParts() && token == END;
+            tape.size = 0;
+            return isSo ? NONE : tape.places[at];
+        }
+
+        private boolean readsParts() {
             for (int part = 0; part < PARTS; part++) {
-                text.begins[part] = length;
+                begin(part);
                 if (!eats(HEATS + part) || !readsAny(0) || !eats(';')) {
-                    return start;
+                    return false;
                 }
             }
-            text.begins[PARTS] = length;
-            return token == END ? NONE : start;
+            begin(PARTS);
+            return true;
         }
 
         private boolean readsAny(int open) {
@@ -1151,7 +1240,7 @@ public final class SewnUp {
                 return false;
             }
             for (int k = 0; k < MOST_BYTES && token == OR; k++) {
-                scan();
+                pass();
                 if (!readsAll(open)) {
                     return false;
                 }
@@ -1165,7 +1254,7 @@ public final class SewnUp {
                 return false;
             }
             for (int k = 0; k < MOST_BYTES && token == AND; k++) {
-                scan();
+                pass();
                 if (!readsNot(open)) {
                     return false;
                 }
@@ -1175,28 +1264,33 @@ public final class SewnUp {
         }
 
         private boolean readsNot(int open) {
-            if (token == NOT) {
-                if (open >= MOST_OPEN) {
-                    return false;
-                }
-                scan();
-                if (!readsNot(open + 1)) {
-                    return false;
-                }
-                put(-NOT);
-                return true;
+            if (token != NOT) {
+                return readsLess(open);
             }
+            if (open >= MOST_OPEN) {
+                return false;
+            }
+            pass();
+            if (!readsNot(open + 1)) {
+                return false;
+            }
+            put(-NOT);
+            return true;
+        }
+
+        private boolean readsLess(int open) {
             if (!readsSum(open)) {
                 return false;
             }
             int sign = token;
-            if (sign == '<' || sign == '=') {
-                scan();
-                if (!readsSum(open)) {
-                    return false;
-                }
-                put(-sign);
+            if (sign != '<' && sign != '=') {
+                return true;
             }
+            pass();
+            if (!readsSum(open)) {
+                return false;
+            }
+            put(-sign);
             return true;
         }
 
@@ -1206,7 +1300,7 @@ public final class SewnUp {
             }
             for (int k = 0; k < MOST_BYTES && (token == '+' || token == '-'); k++) {
                 int sign = token;
-                scan();
+                pass();
                 if (!readsTerm(open)) {
                     return false;
                 }
@@ -1220,7 +1314,7 @@ public final class SewnUp {
                 return false;
             }
             for (int k = 0; k < MOST_BYTES && token == '*'; k++) {
-                scan();
+                pass();
                 if (!readsOne(open)) {
                     return false;
                 }
@@ -1231,18 +1325,17 @@ public final class SewnUp {
 
         private boolean readsOne(int open) {
             if (token == DIGITS || token < NAMES) {
-                put(token == DIGITS ? value : -1 - token);
-                scan();
+                put(token == DIGITS ? tape.values[at] : -1 - token);
+                pass();
                 return true;
             }
             if (token != '-' && token != '(' || open >= MOST_OPEN) {
                 return false;
             }
-            if (token == '(') {
-                scan();
+            if (eats('(')) {
                 return readsAny(open + 1) && eats(')');
             }
-            scan();
+            pass();
             if (!readsOne(open + 1)) {
                 return false;
             }
@@ -1254,8 +1347,21 @@ public final class SewnUp {
             if (token != wanted) {
                 return false;
             }
-            scan();
+            pass();
             return true;
+        }
+
+        private void pass() {
+            if (at < MOST_BYTES) {
+                at++;
+            }
+            token = tape.tokens[at];
+        }
+
+        private void begin(int part) {
+            if (into != null) {
+                into.begins[part] = length;
+            }
         }
 
         /** No token makes more than one code, so that there is room. */
@@ -1263,90 +1369,6 @@ public final class SewnUp {
             if (into != null && length < MOST_BYTES) {
                 into.codes[length] = code;
                 length++;
-            }
-        }
-
-        private void scan() {
-            while (next < size && (tape[next] == 32 || tape[next] == 10)) {
-                next++;
-            }
-            start = next;
-            if (next >= size) {
-                token = END;
-            } else if (isLetter(next)) {
-                scanWord();
-            } else if (isDigit(next)) {
-                scanNumber();
-            } else {
-                token = signAt(next);
-                next++;
-            }
-        }
-
-        private void scanWord() {
-            while (next < size && isLetter(next)) {
-                next++;
-            }
-            token = WRONG;
-            for (int word = 0; word < WORDS; word++) {
-                if (stands(spelling(word))) {
-                    token = word;
-                }
-            }
-        }
-
-        private boolean stands(String word) {
-            if (word.length() != next - start) {
-                return false;
-            }
-            for (int i = 0; i < word.length(); i++) {
-                if (word.charAt(i) != tape[start + i]) {
-                    return false;
-                }
-            }
-            return true;
-        }
-
-        private void scanNumber() {
-            value = 0;
-            while (next < size && isDigit(next)) {
-                value = 10 * value + tape[next] - '0';
-                next++;
-            }
-            token = next - start <= MOST_DIGITS ? DIGITS : WRONG;
-        }
-
-        private int signAt(int place) {
-            switch (tape[place]) {
-                case '(': case ')': case ';': case '+': case '-': case '*': case '<': case '=':
-                    return tape[place];
-                default:
-                    return WRONG;
-            }
-        }
-
-        private boolean isLetter(int place) {
-            return tape[place] >= 'a' && tape[place] <= 'z';
-        }
-
-        private boolean isDigit(int place) {
-            return tape[place] >= '0' && tape[place] <= '9';
-        }
-
-        private static String spelling(int word) {
-            switch (word) {
-                case THING: return "thing";
-                case TEMPER: return "temper";
-                case NUMBER: return "number";
-                case DAY: return "day";
-                case COAT: return "coat";
-                case OWN: return "own";
-                case HEATS: return "heats";
-                case HEATS + 1: return "calms";
-                case HEATS + 2: return "feels";
-                case OR: return "or";
-                case AND: return "and";
-                default: return "not";
             }
         }
     }
