@@ -380,11 +380,13 @@ public final class SewnUp {
             return BAD;
         }
         fillPockets();
-        return pockets.openedFrom(one);
+        pockets.open();
+        return pockets.opened[one];
     }
 
     public int keys(int what) {
         fillPockets();
+        pockets.open();
         switch (what) {
             case 0: return pockets.key();
             case 1: return pockets.mostOpened();
@@ -556,6 +558,7 @@ public final class SewnUp {
         int open = 0;
         for (int k = 0; k < m; k++) {
             pockets.draw(seed + k);
+            pockets.open();
             if (pockets.areAllFromOne()) {
                 open++;
             }
@@ -858,17 +861,30 @@ public final class SewnUp {
         }
     }
 
-    /** What is in whose own coat, and whose number each has. */
+    /** What is in whose own coat, whose number each has, and what could be opened from each. */
     private static final class Pockets {
         int size = 0;
         final int[] numbers = new int[MOST_GROOMS];
         final int[] things = new int[MOST_GROOMS];
+        final int[] opened = new int[MOST_GROOMS];
 
         void draw(int seed) {
             int z = seed;
             for (int g = 0; g < size; g++) {
                 z = z * 1103515245 + 12345;
                 things[g] = (z >>> 9) % 16;
+            }
+        }
+
+        /** In as many rounds as there are pockets all that can be opened is open. */
+        void open() {
+            for (int g = 0; g < size; g++) {
+                opened[g] = 1 << g | openedBy(things[g]);
+            }
+            for (int round = 0; round < size; round++) {
+                for (int g = 0; g < size; g++) {
+                    opened[g] = openedFrom(opened[g]);
+                }
             }
         }
 
@@ -882,24 +898,21 @@ public final class SewnUp {
             return bits;
         }
 
-        /** In as many rounds as there are pockets all that can be opened is open. */
-        int openedFrom(int one) {
-            int open = 1 << one;
-            for (int round = 0; round < size; round++) {
-                for (int g = 0; g < size; g++) {
-                    if ((open >> g & 1) == 1) {
-                        open |= openedBy(things[g]);
-                    }
+        private int openedFrom(int some) {
+            int bits = 0;
+            for (int g = 0; g < size; g++) {
+                if ((some >> g & 1) == 1) {
+                    bits |= opened[g];
                 }
             }
-            return open;
+            return bits;
         }
 
         int key() {
             int key = NONE;
             int most = 0;
             for (int g = 0; g < size; g++) {
-                int many = Integer.bitCount(openedFrom(g));
+                int many = Integer.bitCount(opened[g]);
                 if (many > most) {
                     most = many;
                     key = g;
@@ -909,8 +922,11 @@ public final class SewnUp {
         }
 
         int mostOpened() {
-            int key = key();
-            return key == NONE ? 0 : Integer.bitCount(openedFrom(key));
+            int most = 0;
+            for (int g = 0; g < size; g++) {
+                most = Math.max(most, Integer.bitCount(opened[g]));
+            }
+            return most;
         }
 
         boolean areAllFromOne() {
@@ -921,21 +937,11 @@ public final class SewnUp {
             int all = (1 << size) - 1;
             int fewest = all;
             for (int some = 0; some < all; some++) {
-                if (Integer.bitCount(some) < Integer.bitCount(fewest) && openedFromSome(some) == all) {
+                if (Integer.bitCount(some) < Integer.bitCount(fewest) && openedFrom(some) == all) {
                     fewest = some;
                 }
             }
             return fewest;
-        }
-
-        private int openedFromSome(int some) {
-            int open = 0;
-            for (int g = 0; g < size; g++) {
-                if ((some >> g & 1) == 1) {
-                    open |= openedFrom(g);
-                }
-            }
-            return open;
         }
     }
 
