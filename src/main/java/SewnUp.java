@@ -275,7 +275,8 @@ public final class SewnUp {
     private int ringCount() {
         int many = 0;
         for (int g = 0; g < house.size; g++) {
-            if (Integer.numberOfTrailingZeros(ringOf(g)) == g) {
+            boolean isFirstOfIt = (ringOf(g) & (1 << g) - 1) == 0;
+            if (isFirstOfIt) {
                 many++;
             }
         }
@@ -342,14 +343,14 @@ public final class SewnUp {
         }
         foreseeTempers(n);
         ways.begin(house.size);
-        int least = Integer.MAX_VALUE;
+        int least = 0;
         int digits = 0;
         for (int k = 0; k < ways.many; k++) {
             int warm = 0;
             for (int g = 0; g < house.size; g++) {
                 warm += tempers[g][ways.coats[g]];
             }
-            if (warm < least) {
+            if (k == 0 || warm < least) {
                 least = warm;
                 digits = ways.digits();
             }
@@ -439,10 +440,6 @@ public final class SewnUp {
         return bits;
     }
 
-    private boolean areOthersSo(Sheet felt, int one) {
-        return (otherwise(felt, rule()) & ~(1 << one)) == 0;
-    }
-
     private int textsBy(Sheet felt) {
         int bits = 0;
         for (int i = 0; i < textCount; i++) {
@@ -456,7 +453,8 @@ public final class SewnUp {
     /** KINDS (1), NUMBERS (2), THINGS (3) of one; what is in his own coat is felt of who wears it. */
     private int wouldBeSo(Sheet felt, int what, int one) {
         int dancer = what == 3 ? wearerOf(one) : one;
-        if (!areOthersSo(felt, dancer)) {
+        int others = otherwise(felt, rule()) & ~(1 << dancer);
+        if (others != 0) {
             return 0;
         }
         int bits = 0;
@@ -710,7 +708,7 @@ public final class SewnUp {
     }
 
     private static int within(int v) {
-        return Math.max(0, Math.min(MOST_HEAT, v));
+        return v < 0 ? 0 : v > MOST_HEAT ? MOST_HEAT : v;
     }
 
     private static final class Groom {
@@ -787,7 +785,7 @@ public final class SewnUp {
 
         int heats(Text rule) {
             nameAll();
-            int v = rule.answer(HEATING, names);
+            int v = within(rule.answer(HEATING, names));
             switch (kind) {
                 case SAILOR: return within(v + 3);
                 case CLERK: return v / 2;
@@ -800,7 +798,7 @@ public final class SewnUp {
 
         int calms(Text rule) {
             nameAll();
-            int v = rule.answer(CALMING, names);
+            int v = within(rule.answer(CALMING, names));
             int sailors = has % 2 == 0 ? v : v / 2;
             switch (kind) {
                 case SAILOR: return sailors;
@@ -816,7 +814,7 @@ public final class SewnUp {
             nameNone();
             names[THING] = has;
             names[NUMBER] = number;
-            int v = rule.answer(FEELING, names);
+            int v = within(rule.answer(FEELING, names));
             switch (kind) {
                 case CLERK: return v % 10;
                 case DROWNED: return within(2 * v);
@@ -1073,7 +1071,7 @@ public final class SewnUp {
                     top--;
                 }
             }
-            return within(stack[0]);
+            return stack[0];
         }
 
         private static int joined(int token, int a, int b) {

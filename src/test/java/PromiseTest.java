@@ -244,6 +244,13 @@ public final class PromiseTest {
         faulty("heats heats;", 6);
         faulty("heats nothing;", 6);
         faulty("heat 1;", 0);
+        faulty("heats thingz;", 6);
+        faulty("heats athing;", 6);
+        faulty("heats 1_;", 7);
+        faulty("heats 1{;", 7);
+        faulty("heats `;", 6);
+        faulty("heats 1:;", 7);
+        faulty("heats 1/;", 7);
         faulty("Heats 1;", 0);
         faulty("heats 1\t;", 7);
         faulty("heats 12345;", 6);
@@ -306,6 +313,14 @@ public final class PromiseTest {
             most.append("+1");
         }
         reads(most.append(";calms 2;feels 3;").toString());
+        StringBuilder signs = new StringBuilder();
+        for (int i = 0; i < 160; i++) {
+            signs.append('(');
+        }
+        faulty(signs.toString(), 0);
+        signs.setLength(153);
+        faulty("heats 1" + signs.toString().replace('(', ' '), 160);
+        faulty("heats--" + signs, 10);
     }
 
     private static void p7Answers() {
@@ -757,6 +772,7 @@ public final class PromiseTest {
         for (long d = 2; d <= 20; d++) {
             due("lowest terms", above % d == 0 && below % d == 0 ? 1 : 0, 0);
         }
+        due("m 1", x.chance(100, 1, 1), 1);
         due("a seed wraps", x.chance(MAX, 20, 1) > 0 ? 1 : 0, 1);
         due("THING stays", x.told(1, 3), 0);
         due("m 0", x.chance(0, 0, 0), SewnUp.NO);
