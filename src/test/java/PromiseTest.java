@@ -321,6 +321,31 @@ public final class PromiseTest {
         signs.setLength(153);
         faulty("heats 1" + signs.toString().replace('(', ' '), 160);
         faulty("heats--" + signs, 10);
+        String blanks = signs.toString().replace('(', ' ');
+        faulty("heats" + blanks + "12", 160);
+        faulty("1" + "1".repeat(159), 0);
+        faulty("calms" + blanks + "or", 0);
+        faulty("heats" + blanks + "or", 158);
+        p7Long();
+    }
+
+    /** Texts as long as can be, one behind the other, each apart from those before. */
+    private static void p7Long() {
+        SewnUp x = new SewnUp();
+        x.groom(0, 0, 0);
+        for (int i = 1; i < 6; i++) {
+            StringBuilder letters = new StringBuilder("heats 1");
+            while (letters.length() < 139) {
+                letters.append("+0");
+            }
+            feed(x, letters + " ;calms " + (i + 1) + " ;feels " + i + "7 ;");
+            due("count(4)", x.count(4), 160);
+            due("text()", x.text(), i);
+            due("force", x.force(i), i - 1);
+            due("HEATS", x.told(0, 8), 1);
+            due("CALMS", x.told(0, 9), i + 1);
+            due("FEELS", x.told(0, 10), 10 * i + 7);
+        }
     }
 
     private static void p7Answers() {
