@@ -398,6 +398,27 @@ public final class TextsTest {
             x.force(2);
             Due.is("TEXT 2", x.told(0, 8), 4);
         });
+        Due.sentence(7, "THE TAPE, which is empty then (by a FAULT, too), is a TEXT: its number;", () -> {
+            SewnUp x = Due.alike(1);
+            for (int k = 0; k < 3; k++) {
+                Due.feed(x, "heats 1" + times("+1", 40) + ";calms 1;feels not -1;A");
+                Due.is("text() of a long one with a FAULT", x.text(), -100 - 109);
+            }
+            String heats = "heats 1" + times("+1", 54);
+            Due.feed(x, heats + ";calms 2;feels 3;");
+            Due.is("text() behind FAULTS", x.text(), 1);
+            x.force(1);
+            Due.is("HEATS", x.told(0, 8), 55);
+            Due.is("CALMS", x.told(0, 9), 2);
+            Due.is("FEELS: nothing is left of what had a FAULT", x.told(0, 10), 3);
+        });
+        Due.sentence(7, "THE TAPE, which is empty then (by a FAULT, too), is a TEXT: its number;", () -> {
+            SewnUp x = Due.alike(1);
+            Due.feed(x, "heats 1;calms 2;feels -3;A");
+            Due.is("text()", x.text(), -125);
+            Due.force(x, "heats 4;calms 5;feels 6;");
+            Due.is("FEELS: no sign is left of what had a FAULT", x.told(0, 10), 6);
+        });
         Due.sentence(7, "-100 less the place of its FAULT", () -> {
             faulty("", 0);
             faulty("A", 0);
